@@ -1168,8 +1168,6 @@ public final class MapMerger {
             }
             unmerged[record] = false;
             textBlobs[record] = NONE;
-            textStarts[record] = 0;
-            textLengths[record] = 0;
             return record;
         }
 

@@ -66,13 +66,15 @@ public final class InputTest {
         Bench.due("INPUT stays", x.count(6), 20);
         Bench.due("ARGUMENTS go", x.count(7), 0);
         Bench.due("end", x.end(4), 1);
-        Bench.due("drop of it", x.drop(0), Bench.NOT_THERE);
-        x.arg("q");
-        x.type("0123456789abcdefghij");
+        x.type("klmnopqrstuvwxyzKLMN");
         x.end(2);
-        x.put(1);
+        Bench.due("put", x.put(1), 1);
         x.merge();
-        Bench.due("the TEXT", x.textOf(0), "0123456789abcdefgh");
+        Bench.due("the PATH", x.pathOf(0), "0123456789abcdef");
+        Bench.due("the TEXT", x.textOf(0), "klmnopqrstuvwxyzKL");
+        x.type("0123456789abcdefghij");
+        Bench.due("merge takes none", x.merge(), 0);
+        Bench.due("INPUT stays", x.count(6), 20);
     }
 
     // It takes more calls than the 512 that are promised; this program keeps the limit there, too.
@@ -96,6 +98,34 @@ public final class InputTest {
         Bench.due("feed", x.feed(1, 2, 3, 4, 5), Bench.VOID);
         Bench.due("copy takes them", x.copy(0, 0), Bench.BAD);
         Bench.due("count(6)", x.count(6), 20);
+
+        Bench y = new Bench();
+        for (int k = 0; k < 819; k++) {
+            y.feed(k, k, k, k, k);
+        }
+        y.end(15);
+        Bench.due("feed to 16385", y.feed(1, 2, 3, 4, 5), Bench.REFUSED);
+    }
+
+    private static int roomLeft(Bench x) {
+        int before = x.count(6);
+        for (int k = 0; k < 1000 && x.feed(0, 0, 0, 0, 0).equals(Bench.VOID); k++) {
+            continue;
+        }
+        return x.count(6) - before;
+    }
+
+    private static void theFirstArgumentsRoomComesBack() {
+        int[] sizes = {1000, 2000, 400, 3000, 500, 600, 700};
+        for (int n = 1; n <= sizes.length; n++) {
+            Bench x = new Bench();
+            int held = 0;
+            for (int k = 0; k < n; k++) {
+                x.arg("x".repeat(sizes[k]));
+                held += k >= n - 4 ? sizes[k] : 0;
+            }
+            Bench.due("room behind " + n, roomLeft(x), (16384 - held) / 20 * 20);
+        }
     }
 
     public static void main(String[] args) {
@@ -105,6 +135,7 @@ public final class InputTest {
         fourArgumentsAtMost();
         inputOutlivesTakenArguments();
         inputHasALimit();
+        theFirstArgumentsRoomComesBack();
         Bench.finish();
     }
 }

@@ -80,6 +80,45 @@ public final class MergedTextTest {
         due("1\n", "2\n", "\n".repeat(201), "2\n", true);
     }
 
+    // What one MERGING leaves behind in the object's rows must not matter to the next file, nor to the next MERGING.
+    private static void severalTexts() {
+        Bench x = new Bench();
+        x.files("0", "a", "1\n2\n3\n4\n5\n", "1", "a", "1\n2\nx\n4\n5\n", "2", "a", "1\n2\ny\n4\n5\n");
+        x.files("0", "b", "1\n2\n", "1", "b", "0\n1\n2\n", "2", "b", "1\n2\n3\n");
+        x.files("0", "c", "c\n", "1", "c", "o", "2", "c", "t");
+        x.files("0", "d", "4\n5\n6\n", "1", "d", "5\n6\n7\n", "2", "d", "3\n4\n5\n6\n");
+        String want = "a U 0 1 2 blob -1 [1\n2\n" + clash("x\n", "y\n") + "4\n5\n]; b - -1 -1 -1 blob -1 [0\n1\n2\n3\n]; "
+                + "c U 6 7 8 blob -1 [" + clash("o\n", "t\n") + "]; d U 9 10 11 blob -1 [" + clash("", "3\n4\n")
+                + "5\n6\n7\n]";
+        for (int k = 0; k < 3; k++) {
+            Bench.due("merge", x.merge(), 3);
+            Bench.due("OUTCOMES", x.all(), want);
+        }
+        Bench y = new Bench().files("2", "p", "b\n", "0", "p", "a\n", "1", "p", "c\n");
+        Bench.due("theirs is BLOB 0", y.merge(), 1);
+        Bench.due("theirs is BLOB 0", y.whole(0), "p U 1 2 0 blob -1 [" + clash("c\n", "b\n") + "]");
+        Bench z = new Bench().files("1", "p", "b\n", "0", "p", "a\n", "2", "p", "c\n");
+        Bench.due("ours is BLOB 0", z.merge(), 1);
+        Bench.due("ours is BLOB 0", z.whole(0), "p U 1 0 2 blob -1 [" + clash("b\n", "c\n") + "]");
+    }
+
+    // Rows of common LINES that must be told from what a longer TEXT left in the table.
+    private static void longTextsThenShortOnes() {
+        String longer = lines(60);
+        String[][] shorter = {{"a\nb\n", "b\na\n", "a\nb\nc\n"}, {"x\ny\nz\nx\n", "z\nx\nx\ny\n", "x\ny\nz\nx\nw\n"},
+            {"a\nb\nc\na\nb\n", "b\na\nb\na\nc\n", "c\na\nb\nb\n"}, {"a\n", "b\na\na\n", "a\nc\n"}};
+        Bench x = new Bench();
+        for (String[] t : shorter) {
+            x.files("0", "p", longer, "1", "p", "0\n" + longer, "2", "p", longer + "1\n");
+            Bench.due("merge", x.merge(), 0);
+            Bench.due("the longer one", x.textOf(0), "0\n" + longer + "1\n");
+            x.files("0", "p", t[0], "1", "p", t[1], "2", "p", t[2]);
+            Model.Merged m = Model.merged(t[0], t[1], t[2]);
+            Bench.due("merge", x.merge(), m.conflict ? 1 : 0);
+            Bench.due("the shorter one", x.textOf(0), m.text);
+        }
+    }
+
     private static void highBytes() {
         due("\u00ff\n\u0080\n\1\n", "\u00fe\n\u0080\n\1\n", "\u00ff\n\u0080\n\2\n", "\u00fe\n\u0080\n\2\n", false);
         due("a\r\nb\r\n", "a\r\nc\r\n", "a\nb\r\n", clash("a\r\nc\r\n", "a\nb\r\n"), true);
@@ -106,6 +145,8 @@ public final class MergedTextTest {
         lastLinesWithoutLf();
         pairsOfTwoLongestRows();
         roughTexts();
+        severalTexts();
+        longTextsThenShortOnes();
         highBytes();
         manyConflicts();
         Bench.finish();

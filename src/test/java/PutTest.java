@@ -115,6 +115,8 @@ public final class PutTest {
         }
         Bench.due("PATH 401", x.put(0, "q", "u"), Bench.REFUSED);
         Bench.due("an old PATH", x.put(0, "p7", "u"), 1);
+        Bench.due("the first PATH", x.put(0, "p0", "u"), 1);
+        Bench.due("the last PATH", x.put(0, "p99", "u"), 1);
         Bench.due("another MAP", x.put(1, "q", "u"), 1);
 
         Bench y = new Bench();

@@ -42,11 +42,37 @@ public final class RenamedTest {
         due("less than half", "", "0", "p", "a\n", "1", "q", "a\nb\nc\n");
         due("as often as in the other", "0>0 500", "0", "p", "a\na\na\nb\n", "1", "q", "a\na\nc\nc\n");
         due("as often as in the other", "", "0", "p", "a\na\na\na\n", "1", "q", "a\n");
+        due("as often as in the other, back", "", "0", "p", "a\n", "1", "q", "a\na\na\na\n");
         due("in another order", "0>0 1000", "0", "p", "a\nb\n", "1", "q", "b\na\n");
         due("with and without lf", "0>0 571", "0", "p", "a\nb\nabc", "1", "q", "a\nb\nab");
         due("without lf is another LINE", "", "0", "p", "a", "1", "q", "a\n");
         due("lengths count, not LINES", "0>0 714", "0", "p", "aaaa\nb\n", "1", "q", "aaaa\nc\n");
         due("lengths count, not LINES", "", "0", "p", "a\nb\nccccc\n", "1", "q", "a\nb\nddddd\n");
+    }
+
+    // Such pairs share a place in tables that go by sums of powers of 31.
+    private static void linesThatLookAlike() {
+        due("LINES of one length", "", "0", "p", "Aa\n", "1", "q", "BB\n");
+        due("the first one", "0>0 500", "0", "p", "Aa\nBB\n", "1", "q", "Aa\nxx\n");
+        due("the second one", "0>0 500", "0", "p", "Aa\nBB\n", "1", "q", "BB\nxx\n");
+        due("of four, the third", "0>0 500", "0", "p", "AaAa\nBBBB\nAaBB\nBBAa\n",
+                "1", "q", "AaBB\nxxxx\nyyyy\nAaAa\n");
+    }
+
+    private static void manyLines() {
+        Bench x = new Bench();
+        for (int k = 0; k < 30; k++) {
+            StringBuilder s = new StringBuilder();
+            for (int j = 0; j < 150; j++) {
+                s.append((char) ('A' + k)).append((char) (33 + j)).append("\n");
+            }
+            x.files("0", "p" + (10 + k), s.toString(), "1", "q" + (39 - k), s.substring(3) + "x\n");
+        }
+        StringBuilder want = new StringBuilder();
+        for (int k = 0; k < 30; k++) {
+            want.append(k == 0 ? "" : ", ").append(k).append(">").append(29 - k).append(" 993");
+        }
+        Bench.due("many LINES", x.renames(0, 1), want);
     }
 
     private static void emptyAndRough() {
@@ -103,6 +129,8 @@ public final class RenamedTest {
         oneRename();
         wrongNumbers();
         scores();
+        linesThatLookAlike();
+        manyLines();
         emptyAndRough();
         theGreatestScoreFirst();
         manyPaths();
