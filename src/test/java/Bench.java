@@ -8,10 +8,16 @@ final class Bench {
     static final String REFUSED = "throws.IllegalStateException";
     static final String NOT_THERE = "throws.NoSuchElementException";
 
+    /** What an object is promised to be used for. */
+    static final int MOST_CALLS = 512;
+
     private static int wrong;
     private static int checked;
+    private static int mostCalls;
+    private static String sentence = "";
 
-    MapMerger x = new MapMerger();
+    private final MapMerger x = new MapMerger();
+    private int calls;
 
     interface Call {
         int answer();
@@ -33,8 +39,23 @@ final class Bench {
         checked++;
         if (!String.valueOf(want).equals(String.valueOf(got))) {
             wrong++;
-            System.out.println(what + " answered " + show(got) + ", due is " + show(want));
+            System.out.println(sentence + show(what) + " answered " + show(got) + ", due is " + show(want));
         }
+    }
+
+    /** The document's sentence that the next answers belong to; it's told with each that is wrong. */
+    static void sentence(String words) {
+        sentence = "\"" + words + "\" ";
+    }
+
+    private MapMerger use() {
+        calls++;
+        mostCalls = Math.max(mostCalls, calls);
+        return x;
+    }
+
+    int calls() {
+        return calls;
     }
 
     private static String show(Object o) {
@@ -50,6 +71,13 @@ final class Bench {
         if (wrong != 0) {
             System.exit(1);
         }
+    }
+
+    /** As finish; no object may have been used for more calls than are promised. */
+    static void finishWithinMostCalls() {
+        sentence = "";
+        due("calls of one object", mostCalls <= MOST_CALLS ? "as promised" : mostCalls, "as promised");
+        finish();
     }
 
     static byte[] bytes(String text) {
@@ -69,30 +97,30 @@ final class Bench {
                     n[w] = n[w] << 8 | (i < b.length ? b[i] & 255 : 0);
                 }
             }
-            x.feed(n[0], n[1], n[2], n[3], n[4]);
+            use().feed(n[0], n[1], n[2], n[3], n[4]);
         }
         return pad;
     }
 
     Bench arg(String text) {
         int pad = type(text);
-        x.end(pad);
+        use().end(pad);
         return this;
     }
 
     String end(int n) {
-        return say(() -> x.end(n));
+        return say(() -> use().end(n));
     }
 
     String feed(int a, int b, int c, int d, int e) {
         return say(() -> {
-            x.feed(a, b, c, d, e);
+            use().feed(a, b, c, d, e);
             return 0;
         }).replaceAll("^0$", VOID);
     }
 
     String put(int map) {
-        return say(() -> x.put(map));
+        return say(() -> use().put(map));
     }
 
     String put(int map, String path, String text) {
@@ -103,7 +131,7 @@ final class Bench {
 
     String drop(int map) {
         return say(() -> {
-            x.drop(map);
+            use().drop(map);
             return 0;
         }).replaceAll("^0$", VOID);
     }
@@ -115,33 +143,33 @@ final class Bench {
 
     String copy(int from, int to) {
         return say(() -> {
-            x.copy(from, to);
+            use().copy(from, to);
             return 0;
         }).replaceAll("^0$", VOID);
     }
 
     String merge() {
-        return say(() -> x.merge());
+        return say(() -> use().merge());
     }
 
     String renamed(int a, int b, int i, int what) {
-        return say(() -> x.renamed(a, b, i, what));
+        return say(() -> use().renamed(a, b, i, what));
     }
 
     String outcome(int i, int what) {
-        return say(() -> x.outcome(i, what));
+        return say(() -> use().outcome(i, what));
     }
 
     String letter(int i, int what, int k) {
-        return say(() -> x.letter(i, what, k));
+        return say(() -> use().letter(i, what, k));
     }
 
     String blob(int map, int i) {
-        return say(() -> x.blob(map, i));
+        return say(() -> use().blob(map, i));
     }
 
     int count(int what) {
-        return x.count(what);
+        return use().count(what);
     }
 
     /** Puts files: "0 path text", each a row of three. */
@@ -159,29 +187,29 @@ final class Bench {
     private String letters(int i, int what, int length) {
         StringBuilder s = new StringBuilder();
         for (int k = 0; k < length; k++) {
-            s.append((char) x.letter(i, what, k));
+            s.append((char) use().letter(i, what, k));
         }
         return s.toString();
     }
 
     String pathOf(int i) {
-        return letters(i, 0, x.outcome(i, 0));
+        return letters(i, 0, use().outcome(i, 0));
     }
 
     String textOf(int i) {
-        return letters(i, 1, x.outcome(i, 2));
+        return letters(i, 1, use().outcome(i, 2));
     }
 
     /** An OUTCOME in one text: path, "U" if it's UNMERGED, the three STAGES, the BLOB and the TEXT. */
     String whole(int i) {
-        return pathOf(i) + (x.outcome(i, 1) == 1 ? " U " : " - ") + x.outcome(i, 3) + " " + x.outcome(i, 4) + " "
-                + x.outcome(i, 5) + " blob " + x.outcome(i, 6) + " [" + textOf(i) + "]";
+        return pathOf(i) + (use().outcome(i, 1) == 1 ? " U " : " - ") + use().outcome(i, 3) + " " + use().outcome(i, 4) + " "
+                + use().outcome(i, 5) + " blob " + use().outcome(i, 6) + " [" + textOf(i) + "]";
     }
 
     /** All OUTCOMES. */
     String all() {
         StringBuilder s = new StringBuilder();
-        for (int i = 0; i < x.count(5); i++) {
+        for (int i = 0; i < use().count(5); i++) {
             s.append(i == 0 ? "" : "; ").append(whole(i));
         }
         return s.toString();
@@ -195,5 +223,21 @@ final class Bench {
                     .append(" ").append(renamed(a, b, i, 2));
         }
         return s.toString();
+    }
+
+    /** The BLOBS of a MAP in order of its PATHS. */
+    String map(int map) {
+        StringBuilder s = new StringBuilder();
+        int paths = count(map);
+        for (int i = 0; i < paths; i++) {
+            s.append(i == 0 ? "" : " ").append(blob(map, i));
+        }
+        return s.toString();
+    }
+
+    /** All that can be seen but ARGUMENTS, RENAMES going by the MAPS. */
+    String state() {
+        return "maps [" + map(0) + "] [" + map(1) + "] [" + map(2) + "], " + count(3) + " blobs of " + count(4)
+                + ", input " + count(6) + ", outcomes " + all();
     }
 }
