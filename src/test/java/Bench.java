@@ -202,8 +202,8 @@ final class Bench {
 
     /** An OUTCOME in one text: path, "U" if it's UNMERGED, the three STAGES, the BLOB and the TEXT. */
     String whole(int i) {
-        return pathOf(i) + (use().outcome(i, 1) == 1 ? " U " : " - ") + use().outcome(i, 3) + " " + use().outcome(i, 4) + " "
-                + use().outcome(i, 5) + " blob " + use().outcome(i, 6) + " [" + textOf(i) + "]";
+        return pathOf(i) + (use().outcome(i, 1) == 1 ? " U " : " - ") + use().outcome(i, 3) + " "
+                + use().outcome(i, 4) + " " + use().outcome(i, 5) + " blob " + use().outcome(i, 6) + " [" + textOf(i) + "]";
     }
 
     /** All OUTCOMES. */

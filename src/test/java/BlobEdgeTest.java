@@ -24,8 +24,9 @@ public final class BlobEdgeTest {
     private static void differentTexts() {
         Bench.sentence("BLOBS: .. different TEXTS");
         String half = "0123456789abcdefghij".repeat(3);
-        String[] texts = {"", "\0", "\0\0", "\n", "\n\n", "a", "a\n", "a\0", "A", "\u007f", "\u0080", "\u00ff", "ab", "ba",
-            "abc", half, half + "0", "0" + half, half.substring(1), half.substring(0, 59) + "J", "O" + half.substring(1)};
+        String[] texts = {"", "\0", "\0\0", "\n", "\n\n", "a", "a\n", "a\0", "A", "\u007f", "\u0080", "\u00ff", "ab",
+            "ba", "abc", half, half + "0", "0" + half, half.substring(1), half.substring(0, 59) + "J",
+            "O" + half.substring(1)};
         Bench x = new Bench();
         int bytes = 0;
         for (int round = 0; round < 2; round++) {

@@ -31,8 +31,8 @@ public final class LookEdgeTest {
     }
 
     private static Bench merged() {
-        Bench x = new Bench().files("1", "long/path", "", "2", "q", "\u00ff\0", "0", "r", "A", "2", "r", "BBB", "0", "s", "C",
-                "1", "s", "D", "2", "s", "E");
+        Bench x = new Bench().files("1", "long/path", "", "2", "q", "\u00ff\0", "0", "r", "A", "2", "r", "BBB",
+                "0", "s", "C", "1", "s", "D", "2", "s", "E");
         Bench.due("merge", x.merge(), 2);
         return x;
     }
@@ -164,8 +164,8 @@ public final class LookEdgeTest {
 
     private static void counts() {
         Bench.sentence("PATHS of MAPS 0 .. 2 (0 .. 2), BLOBS (3), their BYTES (4), OUTCOMES (5), .. else -1");
-        Bench x = new Bench().files("0", "a", "12", "0", "b", "345", "0", "c", "12", "0", "d", "", "1", "x", "6", "1", "y",
-                "7", "1", "z", "8", "2", "x", "6", "2", "v", "678901");
+        Bench x = new Bench().files("0", "a", "12", "0", "b", "345", "0", "c", "12", "0", "d", "", "1", "x", "6",
+                "1", "y", "7", "1", "z", "8", "2", "x", "6", "2", "v", "678901");
         x.merge();
         x.arg("1").arg("2").arg("3");
         x.type("x".repeat(21));

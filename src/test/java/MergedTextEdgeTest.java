@@ -118,8 +118,9 @@ public final class MergedTextEdgeTest {
 
     private static void aRoughOne() {
         Bench.sentence("If one is ROUGH ..: ours, and a CONFLICT");
-        String[][] rows = {{"1\n\0", "2\n", "3\n"}, {"1\n", "2\n\0", "3\n"}, {"1\n", "2\n", "3\n\0"}, {"\0", "\0\0", "\0\1"},
-            {"1\n", "", "\0"}, {"1\n", "\0", ""}, {"\0", "", "1\n"}, {"\0", "1\n", ""}, {"", "\0", "1"}, {"", "1", "\0"}};
+        String[][] rows = {{"1\n\0", "2\n", "3\n"}, {"1\n", "2\n\0", "3\n"}, {"1\n", "2\n", "3\n\0"},
+            {"\0", "\0\0", "\0\1"}, {"1\n", "", "\0"}, {"1\n", "\0", ""}, {"\0", "", "1\n"}, {"\0", "1\n", ""},
+            {"", "\0", "1"}, {"", "1", "\0"}};
         for (String[] r : rows) {
             Bench x = new Bench().files("0", "p", r[0], "1", "p", r[1], "2", "p", r[2]);
             Bench.due("merge", x.merge(), 1);

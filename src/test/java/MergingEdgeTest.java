@@ -140,7 +140,8 @@ public final class MergingEdgeTest {
         due("RENAMED BENEATH another", Bench.REFUSED, "0", "p", "A", "1", "p", "A", "1", "r", "B", "2", "r/p", "A");
         due("above what is RENAMED away", "p - -1 -1 -1 blob 1 [B]; q - -1 -1 -1 blob 0 [A]",
                 "0", "p/q", "A", "1", "q", "A", "1", "p", "B", "2", "p/q", "A");
-        due("BENEATH a PATH of base alone", "p/q - -1 -1 -1 blob 1 [B]", "0", "p", "A", "1", "p/q", "B", "2", "p/q", "B");
+        due("BENEATH a PATH of base alone", "p/q - -1 -1 -1 blob 1 [B]", "0", "p", "A", "1", "p/q", "B",
+                "2", "p/q", "B");
     }
 
     private static void refusedAtFirst() {
@@ -208,6 +209,19 @@ public final class MergingEdgeTest {
         Bench.due("its TEXT is a new BLOB", x.put(0, "p", "0\n" + TEXT + "5\n"), 5);
     }
 
+    private static void severalMergedTexts() {
+        Bench.sentence("MERGED TEXTS .. together");
+        String clean = "0\n" + TEXT + "5\n";
+        Bench x = new Bench().files("0", "c", TEXT, "1", "c", "0\n" + TEXT, "2", "c", TEXT + "5\n", "1", "b", "A\n",
+                "2", "b", "B\n", "0", "d", TEXT, "1", "d", "\0", "2", "d", "A\n", "1", "a", "C\n", "2", "a", "");
+        String want = "a - -1 -1 -1 blob 6 [C\n]; b U -1 3 4 blob -1 [" + CLASH + "]; c - -1 -1 -1 blob -1 [" + clean
+                + "]; d U 0 5 3 blob -1 [\0]";
+        for (int k = 0; k < 3; k++) {
+            Bench.due("merge", x.merge(), 2);
+            Bench.due("OUTCOMES", x.all(), want);
+        }
+    }
+
     /** Forty times a LINE of its own and an empty one. */
     private static String rising(char from) {
         StringBuilder s = new StringBuilder();
@@ -243,6 +257,8 @@ public final class MergingEdgeTest {
         Bench.due("copy", x.copy(1, 2), m.copy(1, 2));
         putBoth(x, m, 1, "q", odd);
         Bench.due("merge", x.merge(), m.merge());
+        Bench.due("merge again", x.merge(), 13);
+        Bench.due("and again", x.merge(), 13);
         Bench.due("OUTCOMES", x.count(5), 14);
         int together = m.outcomes.values().stream().filter(o -> o.unmerged).mapToInt(o -> o.text.length()).sum();
         Bench.due("MERGED TEXTS together", together, 13 * 4614);
@@ -272,6 +288,7 @@ public final class MergingEdgeTest {
         refusedLater();
         asTheyWereThen();
         noBlobsAreMade();
+        severalMergedTexts();
         asLongMergedTextsAsCanBe();
         Bench.finishWithinMostCalls();
     }

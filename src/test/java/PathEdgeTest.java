@@ -59,12 +59,12 @@ public final class PathEdgeTest {
 
     private static void dots() {
         Bench.sentence("not \".\" nor \"..\"");
-        for (String s : new String[] {".", "..", "./a", "../a", "a/.", "a/..", "a/./b", "a/../b", "./.", "../..", "./..",
-            "a/b/.", "a/b/.."}) {
+        for (String s : new String[] {".", "..", "./a", "../a", "a/.", "a/..", "a/./b", "a/../b", "./.", "../..",
+            "./..", "a/b/.", "a/b/.."}) {
             wrong(s);
         }
-        for (String s : new String[] {"...", "....", ".a", "a.", "..a", "a..", ".a.", "a.b", "a/...", ".../a", ".-", "-.",
-            "a/.a", "a/..a", ".a/a", "..a/a"}) {
+        for (String s : new String[] {"...", "....", ".a", "a.", "..a", "a..", ".a.", "a.b", "a/...", ".../a", ".-",
+            "-.", "a/.a", "a/..a", ".a/a", "..a/a"}) {
             right(s);
         }
     }

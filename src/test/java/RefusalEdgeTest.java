@@ -3,7 +3,8 @@ import java.util.function.Function;
 /** What is "Bad", REFUSED and "not there", which comes first, and what such calls leave as it was: all promises. */
 public final class RefusalEdgeTest {
     private static final int[] NO_MAPS = {Integer.MIN_VALUE, -2, -1, 3, 4, 255, Integer.MAX_VALUE};
-    private static final String START = "maps [0 1] [0] [1 2], 3 blobs of 4, input 20, outcomes r - -1 -1 -1 blob 2 [CC]";
+    private static final String START = "maps [0 1] [0] [1 2], 3 blobs of 4, input 20, "
+            + "outcomes r - -1 -1 -1 blob 2 [CC]";
 
     /** PATHS p and q in base, p in ours, q and r in theirs, and a MERGING done. */
     private static Bench start() {
