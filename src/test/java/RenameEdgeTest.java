@@ -125,6 +125,11 @@ public final class RenameEdgeTest {
         Bench.due("51 GONE, the first is the first that has COME", y.renames(0, 1), "0>0 1000, 1>2 1000");
         Bench z = many(3, 51).files("0", "g102", "T", "1", "c150", "T");
         Bench.due("51 COME, the last is the last GONE", z.renames(0, 1), "1>2 1000, 2>50 1000");
+        Bench v = many(51, 3).files("0", "g100", "T", "1", "c100", "T", "1", "c101", "T");
+        Bench.due("51 GONE, two have COME", v.renames(0, 1), "0>0 1000, 1>2 1000");
+        Bench w = many(51, 3).files("0", "g150", "T", "0", "a", "T", "1", "a", "T");
+        Bench.due("51 GONE, a PATH of both isn't one that has COME", w.renamed(0, 1, 1, 0), Bench.NOT_THERE);
+        Bench.due("51 GONE, a PATH of both isn't one that has COME", w.renames(0, 1), "2>3 1000");
         x.drop(0, "g149");
         Bench.due("50 GONE", x.renames(0, 1), "0>0 500, 1>2 1000");
     }
